@@ -444,6 +444,7 @@ public final class PromiseTests {
         is(32, "cool(2, 600): it has come", x.cool(2, 600), 3);
         is(32, "cool(0, 321)", x.cool(0, 321), -1);
         is(32, "cool(4, 600)", x.cool(4, 600), -1);
+        is(32, "cool(0, 0)", x.cool(0, 0), -1);
         is(32, "cool(0, 601)", x.cool(0, 601), -2);
         is(32, "cool(0, -1)", x.cool(0, -1), -2);
         is(32, "cool(6, 5)", x.cool(6, 5), -2);
@@ -524,6 +525,10 @@ public final class PromiseTests {
         LehrBelt x = belt();
         is(43, "spread(0)", x.spread(0), 300);
         is(43, "spread(8)", x.spread(8), 66);
+        LehrBelt first = Checks.told("lehr steps 1 law 0 odds 0 pace 1 set 0; zone 0;"
+                + "piece heat 7 thick 1 bears 0 at 0; piece heat 90 thick 1 bears 0 at 0;");
+        is(43, "spread(0): the first is the coolest", first.spread(0), 83);
+        is(35, "crowd(): in step 0 alone", first.crowd(), 2);
         is(43, "spread(9)", x.spread(9), -2);
         is(44, "coming(0)", x.coming(0), 41);
         is(44, "coming(1)", x.coming(1), 2);
@@ -562,6 +567,10 @@ public final class PromiseTests {
         is(49, "busy(0)", gap.busy(0), 2);
         is(49, "busy(3)", gap.busy(3), 2);
         is(51, "stiff(5): at set it is not below", gap.stiff(5), 2);
+        LehrBelt early = Checks.told("lehr steps 2 law 0 odds 0 pace 1 set 0; zone 0; zone 0;"
+                + "piece heat 50 thick 1 bears 0 at 0;");
+        is(48, "last(0)", early.last(0), 0);
+        is(12, "leaves(0): the last step", early.leaves(0), 2);
         LehrBelt few = Checks.told("lehr steps 2 law 0 odds 0 pace 1 set 0; zone 0; zone 0; zone 0; zone 0;"
                 + "piece heat 50 thick 1 bears 0 at 1;");
         is(48, "last(2)", few.last(2), -1);
@@ -582,6 +591,14 @@ public final class PromiseTests {
         is(53, "needs(1): 306 are too many", x.needs(1), -1);
         is(53, "needs(4)", x.needs(4), 0);
         is(53, "needs(-1)", x.needs(-1), -2);
+        LehrBelt hot = Checks.told("lehr steps 1 law 0 odds 0 pace 2 set 0; zone 600;"
+                + "piece heat 0 thick 2 bears 0 at 0;");
+        hot.fires(0, 200, 0);
+        hot.fires(0, 200, 0);
+        hot.fires(0, 200, 0);
+        is(53, "needs(0): 300", hot.needs(0), 300);
+        hot.fires(0, 2, 0);
+        is(53, "needs(0): 301 are too many", hot.needs(0), -1);
         x.rate(3, 90);
         is(52, "spare(3)", x.spare(3), 0);
         x.rate(3, 95);
@@ -637,6 +654,7 @@ public final class PromiseTests {
         LehrBelt cold = Checks.told("lehr steps 1 law 0 odds 0 pace 1 set 0; zone 0;"
                 + "piece heat 241 thick 2 bears 10 at 0; piece heat 242 thick 2 bears 10 at 0;");
         is(57, "raise(0, 0): 200 at most", cold.raise(0, 0), 200);
+        is(58, "rescue(0): 200 at most", cold.rescue(0), 0);
         is(57, "raise(0, 1): 201 are needed", cold.raise(0, 1), -1);
         is(58, "rescue(1): none does", cold.rescue(1), -1);
         // zone 0 hotter would strain it yet more in zone 1
@@ -695,6 +713,17 @@ public final class PromiseTests {
         is(61, "airs(1, 1): none", x.airs(1, 1), 0);
         is(62, "low(1, 1): none", x.low(1, 1), -1);
         is(63, "high(1, 1): none", x.high(1, 1), -1);
+        // 0 is the only heat that takes it to 100, and 600 the only one that takes it to 400
+        LehrBelt ends = Checks.told("lehr steps 3 law 0 odds 0 pace 1 set 0; zone 300;"
+                + "piece heat 200 thick 2 bears 300 at 0;");
+        Checks.write(ends, 0, 0, 1, 100);
+        is(61, "airs(0, 0) at 0", ends.airs(0, 0), 1);
+        is(62, "low(0, 0) at 0", ends.low(0, 0), 0);
+        is(63, "high(0, 0) at 0", ends.high(0, 0), 0);
+        Checks.write(ends, 0, 0, 1, 400);
+        is(61, "airs(0, 0) at 600", ends.airs(0, 0), 1);
+        is(62, "low(0, 0) at 600", ends.low(0, 0), 600);
+        is(63, "high(0, 0) at 600", ends.high(0, 0), 600);
         x.fires(0, 40, 0);
         is(63, "high(0, 0) with acts", x.high(0, 0), 60);
         is(61, "airs(4, 0)", x.airs(4, 0), -2);
@@ -801,6 +830,10 @@ public final class PromiseTests {
         x.fires(1, 100, 0);
         is(68, "worth(1) with acts", x.worth(1), 1);
         is(68, "worth(2) with acts", x.worth(2), 0);
+        LehrBelt three = Checks.told("lehr steps 3 law 0 odds 0 pace 1 set 0; zone 100; zone 100; zone 100;"
+                + "piece heat 100 thick 2 bears 10 at 0;");
+        is(69, "share(1, 0) of three alike", three.share(1, 0), 1);
+        is(69, "share(1, 1) of three alike", three.share(1, 1), 3);
         // a cold piece cracks where it burns
         LehrBelt cold = Checks.told("lehr steps 2 law 0 odds 0 pace 1 set 0; zone 100; zone 100;"
                 + "piece heat 0 thick 2 bears 10 at 0;");
@@ -839,6 +872,13 @@ public final class PromiseTests {
         is(71, "gets(0, 1, 0, 1, 0)", odd.gets(0, 1, 0, 1, 0), 3);
         is(70, "rests(0, 1)", odd.rests(0, 1), 4);
         is(70, "rests(1, 0)", odd.rests(1, 0), 1);
+        // fired, zone 0 is at 150: 49 or 51 more would be too far for one of the two
+        LehrBelt just = Checks.told("lehr steps 1 law 0 odds 0 pace 1 set 0; zone 100; zone 0;"
+                + "piece heat 171 thick 2 bears 5 at 0; piece heat 0 thick 1 bears 0 at 1;"
+                + "piece heat 129 thick 2 bears 5 at 0;");
+        is(71, "gets(0, 1, 0, 0, 0)", just.gets(0, 1, 0, 0, 0), 0);
+        is(71, "gets(0, 1, 1, 0, 0)", just.gets(0, 1, 1, 0, 0), 4);
+        is(71, "gets(0, 1, 1, 0, 1)", just.gets(0, 1, 1, 0, 1), 3);
         // each piece needs both zones fired: neither is, or both are
         LehrBelt both = Checks.told("lehr steps 2 law 0 odds 0 pace 1 set 0; zone 100; zone 100;"
                 + "piece heat 150 thick 2 bears 12 at 0; piece heat 150 thick 2 bears 12 at 0;");
@@ -989,6 +1029,7 @@ public final class PromiseTests {
         }
         is(79, "luck(1, 1, 0)", x.luck(1, 1, 0), 0);
         is(79, "luck(1, 1, 1)", x.luck(1, 1, 1), 1);
+        is(79, "luck(0, 2, 1)", x.luck(0, 2, 1), 2);
         is(79, "luck(1, 0, 0)", x.luck(1, 0, 0), -2);
         is(79, "luck(1, 21, 0)", x.luck(1, 21, 0), -2);
         is(79, "luck(-1, 1, 0)", x.luck(-1, 1, 0), -2);
@@ -1055,9 +1096,18 @@ public final class PromiseTests {
         is(83, "count(10) stays", x.count(10), 1);
         is(83, "undo()", x.undo(), 0);
         x.rate(0, 299);
+        x.rate(1, 298);
+        x.anew();
+        x.gusts(5);
+        x.gusts(6);
+        x.fires(2, 90, 4);
         is(83, "back(1): the image stays as it was", x.back(1), 0);
         is(83, "piece(0, 2)", x.piece(0, 2), 60);
         is(83, "count(7)", x.count(7), 1);
+        is(83, "undo() of the image's act", x.undo(), 0);
+        is(83, "air(0, 0)", x.air(0, 0), 560);
+        is(83, "air(0, 5)", x.air(0, 5), 560);
+        is(83, "air(2, 4)", x.air(2, 4), 200);
         is(83, "back(0): no lehr", x.back(0), 0);
         is(83, "sound()", x.sound(), -2);
         is(83, "count(6)", x.count(6), 0);

@@ -170,6 +170,10 @@ public final class PromiseTests {
         fault("zone 5;", 1, 0);
         fault("zones 5;", 1, 0);
         fault(";", 1, 0);
+        fault("xehr steps 3", 1, 0);
+        fault("lehx steps 3", 1, 0);
+        fault("leh steps 3", 1, 0);
+        fault("lehrs steps 3", 1, 0);
         fault(" 7", 1, 1);
         fault("Lehr steps 3", 1, 0);
         fault("lehr\tsteps", 1, 4);

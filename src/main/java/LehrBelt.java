@@ -951,7 +951,7 @@ public final class LehrBelt {
         private int tokenNumber() {
             int number = 0;
             for (int i = start; i < stop; i++) {
-                number = Math.min(number * 10 + tape.byteAt(i) - '0', MAX_TAPE + 1);
+                number = Math.min(number * 10 + tape.byteAt(i) - '0', MOST_HEAT + 1);
             }
             return number;
         }
